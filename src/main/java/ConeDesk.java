@@ -358,7 +358,7 @@ public final class ConeDesk {
         int load(PointList list, int chosen) {
             joined = 0;
             current[0] = 1;
-            for (int p = 0; p < list.count; p++) {
+            for (int p = 0; p < list.count && joined < dimension; p++) {
                 if (hasBit(chosen, p)) {
                     join(list, p);
                 }
