@@ -51,7 +51,7 @@ public final class ConeDesk {
         rayList = new PointList(MOST_RAYS);
         minors = new Minors(this.dimension);
         faceList = new FaceList();
-        finder = new BasisFinder(minors);
+        finder = new BasisFinder(this.dimension);
     }
 
     public int add(int a, int b, int c, int d) throws IllegalArgumentException, IllegalStateException {
@@ -263,9 +263,9 @@ public final class ConeDesk {
 
     /** Points one behind another in a single array, so that no call has to make objects. */
     private static final class PointList {
-        private final int most;
-        private final int[] cells;
+        final int[] cells;
         int count;
+        private final int most;
 
         PointList(int most) {
             this.most = most;
@@ -399,6 +399,7 @@ public final class ConeDesk {
 
         // The new point is the last line of each determinant, which is expanded along it.
         private void join(PointList list, int which) {
+            int from = which * WIDTH;
             boolean independent = false;
             for (int mask = 0; mask < choiceEnd; mask++) {
                 if (Integer.bitCount(mask) != joined + 1) {
@@ -406,8 +407,8 @@ public final class ConeDesk {
                 }
                 long sum = 0;
                 for (int i = 0; i < dimension; i++) {
-                    if (hasBit(mask, i)) {
-                        long part = current[mask ^ 1 << i] * list.at(which, i);
+                    if ((mask >> i & 1) != 0) {
+                        long part = current[mask ^ 1 << i] * list.cells[from + i];
                         sum += Integer.bitCount(mask >> i + 1) % 2 == 0 ? part : -part;
                     }
                 }
@@ -585,8 +586,8 @@ public final class ConeDesk {
         private int mixCount;
         private int index;
 
-        InnerPoints(Minors minors) {
-            this.minors = minors;
+        InnerPoints(int dimension) {
+            minors = new Minors(dimension);
         }
 
         void addTo(PointList target, PointList rays, int simplex) {
@@ -701,9 +702,9 @@ public final class ConeDesk {
         private final int[] rest = new int[MOST_ROWS];
         private int rowCount;
 
-        BasisFinder(Minors minors) {
-            this.minors = minors;
-            innerPoints = new InnerPoints(minors);
+        BasisFinder(int dimension) {
+            minors = new Minors(dimension);
+            innerPoints = new InnerPoints(dimension);
         }
 
         void find(PointList rows, PointList rays, FaceList faces, int span) {

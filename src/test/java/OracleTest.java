@@ -5,7 +5,6 @@ import java.util.Random;
 
 /** Every answer of ConeDesk over many cones, against the Oracle; the same cones in every run. */
 public final class OracleTest {
-
     private final Checks checks = new Checks();
     private final Random random = new Random(20261115);
     private int cones;
@@ -19,9 +18,14 @@ public final class OracleTest {
         for (int dimension = 2; dimension <= 4; dimension++) {
             for (int reach = 1; reach <= 5; reach++) {
                 for (int cone = 0; cone < 60 * factor; cone++) {
-                    test.tryCone(dimension, reach);
+                    int rows = dimension + test.random.nextInt(9 - dimension);
+                    test.tryCone(dimension, reach, rows, test.random.nextInt(4) != 0);
                 }
             }
+        }
+        // Many small rows: cones that have many rays and yet are seldom LARGE.
+        for (int cone = 0; cone < 1000 * factor; cone++) {
+            test.tryCone(4, 1 + cone % 2, 6 + cone % 3, true);
         }
         for (int run = 0; run < 40 * factor; run++) {
             test.tryRun(2 + run % 3);
@@ -31,11 +35,9 @@ public final class OracleTest {
         test.checks.end();
     }
 
-    private void tryCone(int dimension, int reach) {
-        int count = dimension + random.nextInt(9 - dimension);
+    private void tryCone(int dimension, int reach, int count, boolean open) {
         List<int[]> rows = new ArrayList<>();
         int[] inner = randomPoint(dimension, 3);
-        boolean open = random.nextInt(4) != 0;
         while (rows.size() < count) {
             int[] row = randomRow(rows, dimension, reach);
             // Rows that hold one inner point leave a cone of full size; others mostly do not.

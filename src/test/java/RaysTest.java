@@ -2,7 +2,6 @@ import java.util.List;
 
 /** Promises 6 to 10: rays, size, the rows that bound, and faces. */
 public final class RaysTest {
-
     private final Checks checks = new Checks();
 
     public static void main(String[] args) {
