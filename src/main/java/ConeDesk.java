@@ -25,6 +25,11 @@ public final class ConeDesk {
     private static final int MOST_CUTS = 1 + WIDTH * MOST_SIMPLICES;
     private static final int MOST_CANDIDATES = LARGE_RAYS + MOST_SIMPLICES * (LARGE_INDEX - 1);
 
+    // All choices of coordinates as masks, those of fewer coordinates first, and where the choices
+    // of 0, 1, .. coordinates start.
+    private static final int[] CHOICES = {0, 1, 2, 4, 8, 3, 5, 6, 9, 10, 12, 7, 11, 13, 14, 15};
+    private static final int[] CHOICE_STARTS = {0, 1, 5, 11, 15, 16};
+
     // How much is known of the cone between its rows, each step resting on the one before.
     private static final int KNOWN_NOTHING = 0;
     private static final int KNOWN_RAYS = 1;
@@ -49,9 +54,9 @@ public final class ConeDesk {
         direction = new int[WIDTH];
         rowList = new PointList(MOST_ROWS);
         rayList = new PointList(MOST_RAYS);
-        minors = new Minors(this.dimension);
+        minors = new Minors();
         faceList = new FaceList();
-        finder = new BasisFinder(this.dimension);
+        finder = new BasisFinder();
     }
 
     public int add(int a, int b, int c, int d) throws IllegalArgumentException, IllegalStateException {
@@ -247,7 +252,7 @@ public final class ConeDesk {
     }
 
     private void tryRay(int sign) {
-        minors.fillDirection(direction, sign);
+        minors.fillDirection(direction, dimension, sign);
         if (isInCone(direction)) {
             rayList.insertInOrder(direction);
         }
@@ -338,27 +343,19 @@ public final class ConeDesk {
     /**
      * The determinants of independent points over every choice (a mask) of as many coordinates.
      * They fit a long with ease: coordinates of rays are determinants of at most three rows and
-     * so at most 500, and at most four rays are joined.
+     * so at most 500, and at most four rays are joined. Choices beyond the dimension need no care,
+     * since coordinates there are 0.
      */
     private static final class Minors {
-        final int choiceEnd;
-        private final int dimension;
-        private long[] current;
-        private long[] next;
+        private long[] current = new long[CHOICES.length];
+        private long[] next = new long[CHOICES.length];
         private int joined;
-
-        Minors(int dimension) {
-            this.dimension = dimension;
-            choiceEnd = 1 << dimension;
-            current = new long[choiceEnd];
-            next = new long[choiceEnd];
-        }
 
         /** Takes the chosen points in, but for those that depend on earlier ones: their rank. */
         int load(PointList list, int chosen) {
             joined = 0;
             current[0] = 1;
-            for (int p = 0; p < list.count && joined < dimension; p++) {
+            for (int p = 0; p < list.count && joined < WIDTH; p++) {
                 if (hasBit(chosen, p)) {
                     join(list, p);
                 }
@@ -366,50 +363,52 @@ public final class ConeDesk {
             return joined;
         }
 
-        boolean isChoice(int mask) {
-            return Integer.bitCount(mask) == joined;
+        int firstChoice() {
+            return CHOICE_STARTS[joined];
         }
 
-        long at(int mask) {
+        int endOfChoices() {
+            return CHOICE_STARTS[joined + 1];
+        }
+
+        long minor(int mask) {
             return current[mask];
         }
 
         long commonDivisor() {
             long divisor = 0;
-            for (int mask = 0; mask < choiceEnd; mask++) {
-                if (isChoice(mask)) {
-                    divisor = commonDivisorOf(divisor, Math.abs(current[mask]));
-                }
+            int end = endOfChoices();
+            for (int choice = firstChoice(); choice < end; choice++) {
+                divisor = commonDivisorOf(divisor, Math.abs(current[CHOICES[choice]]));
             }
             return divisor;
         }
 
         /** The shortest whole point whose product with all of dimension - 1 joined points is 0. */
-        void fillDirection(int[] target, int sign) {
+        void fillDirection(int[] target, int dimension, int sign) {
             long divisor = commonDivisor();
             if (divisor == 0) {
                 return;
             }
             Arrays.fill(target, 0);
             for (int i = 0; i < dimension; i++) {
-                long share = current[choiceEnd - 1 ^ 1 << i] / divisor;
+                long share = current[maskOfAll(dimension) ^ 1 << i] / divisor;
                 target[i] = (int) (i % 2 == 0 ? share : -share) * sign;
             }
         }
 
         // The new point is the last line of each determinant, which is expanded along it.
         private void join(PointList list, int which) {
-            int from = which * WIDTH;
             boolean independent = false;
-            for (int mask = 0; mask < choiceEnd; mask++) {
-                if (Integer.bitCount(mask) != joined + 1) {
-                    continue;
-                }
+            int end = CHOICE_STARTS[joined + 2];
+            for (int choice = CHOICE_STARTS[joined + 1]; choice < end; choice++) {
+                int mask = CHOICES[choice];
                 long sum = 0;
-                for (int i = 0; i < dimension; i++) {
+                int sign = 1;
+                for (int i = WIDTH - 1; i >= 0; i--) {
                     if ((mask >> i & 1) != 0) {
-                        long part = current[mask ^ 1 << i] * list.cells[from + i];
-                        sum += Integer.bitCount(mask >> i + 1) % 2 == 0 ? part : -part;
+                        sum += sign * current[mask ^ 1 << i] * list.cells[which * WIDTH + i];
+                        sign = -sign;
                     }
                 }
                 next[mask] = sum;
@@ -577,18 +576,14 @@ public final class ConeDesk {
         private static final int SHARE_BITS = 4;
         private static final int SHARE_MASK = 15;
 
-        private final Minors minors;
+        private final Minors minors = new Minors();
         private final int[] members = new int[WIDTH];
-        private final int[] steps = new int[1 << WIDTH];
+        private final int[] steps = new int[CHOICES.length];
         private final int[] mixes = new int[LARGE_INDEX];
         private final int[] inner = new int[WIDTH];
         private int memberCount;
         private int mixCount;
         private int index;
-
-        InnerPoints(int dimension) {
-            minors = new Minors(dimension);
-        }
 
         void addTo(PointList target, PointList rays, int simplex) {
             minors.load(rays, simplex);
@@ -624,11 +619,10 @@ public final class ConeDesk {
             Arrays.fill(steps, 0);
             for (int m = 0; m < memberCount; m++) {
                 minors.load(rays, simplex & ~(1 << members[m]));
-                for (int mask = 0; mask < minors.choiceEnd; mask++) {
-                    if (minors.isChoice(mask)) {
-                        long share = m % 2 == 0 ? minors.at(mask) : -minors.at(mask);
-                        steps[mask] |= restOf(share) << m * SHARE_BITS;
-                    }
+                int end = minors.endOfChoices();
+                for (int choice = minors.firstChoice(); choice < end; choice++) {
+                    long minor = minors.minor(CHOICES[choice]);
+                    steps[choice] |= restOf(m % 2 == 0 ? minor : -minor) << m * SHARE_BITS;
                 }
             }
         }
@@ -642,9 +636,9 @@ public final class ConeDesk {
             mixes[0] = 0;
             mixCount = 1;
             for (int m = 0; m < mixCount && m < LARGE_INDEX; m++) {
-                for (int mask = 0; mask < steps.length; mask++) {
-                    if (steps[mask] != 0) {
-                        includeMix(sumOf(mixes[m], steps[mask]));
+                for (int step = 0; step < steps.length; step++) {
+                    if (steps[step] != 0) {
+                        includeMix(sumOf(mixes[m], steps[step]));
                     }
                 }
             }
@@ -692,20 +686,15 @@ public final class ConeDesk {
     private static final class BasisFinder {
         final PointList found = new PointList(MOST_CANDIDATES);
         boolean large;
-        private final Minors minors;
+        private final Minors minors = new Minors();
         private final Simplices simplices = new Simplices();
-        private final InnerPoints innerPoints;
+        private final InnerPoints innerPoints = new InnerPoints();
         private final int[] candidate = new int[WIDTH];
         // The products of each found point with each row: a point may be taken away from another
         // one if none of its heights is above the other's.
         private final int[] heights = new int[MOST_CANDIDATES * MOST_ROWS];
         private final int[] rest = new int[MOST_ROWS];
         private int rowCount;
-
-        BasisFinder(int dimension) {
-            minors = new Minors(dimension);
-            innerPoints = new InnerPoints(dimension);
-        }
 
         void find(PointList rows, PointList rays, FaceList faces, int span) {
             rowCount = rows.count;
