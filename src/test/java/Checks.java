@@ -2,81 +2,90 @@ import java.util.List;
 
 /** Counts the answers that are not as due and prints each of them. */
 final class Checks {
+    static final int LOW = Integer.MIN_VALUE;
+    static final int HIGH = Integer.MAX_VALUE;
     static final Class<IllegalArgumentException> ARGUMENT = IllegalArgumentException.class;
     static final Class<IllegalStateException> STATE = IllegalStateException.class;
     static final Class<IndexOutOfBoundsException> INDEX = IndexOutOfBoundsException.class;
 
+    private static final long LONGEST_TEST_MILLIS = 300_000;
+    private static final int MOST_LINES = 200;
+
+    private String sentence = "";
     private int made;
     private int wrong;
 
-    interface Call {
-        void run();
+    Checks() {
+        Thread watch = new Thread(Checks::endWhatDoesNotEnd);
+        watch.setDaemon(true);
+        watch.start();
     }
 
-    /** One of the calls row, ray and point. */
-    interface Coordinates {
-        int at(int which, int i);
+    /** What the document says where the next checks look. */
+    void about(String sentence) {
+        this.sentence = sentence;
     }
 
-    /** An object with these rows; numbers beyond the dimension are 77, as nothing of them counts. */
-    static ConeDesk desk(int dimension, int[][] rows) {
-        ConeDesk desk = new ConeDesk(dimension);
-        for (int[] row : rows) {
-            int[] four = four(row);
-            desk.add(four[0], four[1], four[2], four[3]);
-        }
-        return desk;
+    /** The least and the greatest int, and the numbers next to a range on both sides. */
+    static int[] outside(int low, int high) {
+        return new int[] {LOW, low - 1, high + 1, HIGH};
     }
 
-    static int[] four(int[] point) {
-        int[] four = {77, 77, 77, 77};
-        System.arraycopy(point, 0, four, 0, point.length);
-        return four;
-    }
-
-    void same(String what, long got, long want) {
+    void same(String what, Object got, Object want) {
         made++;
-        if (got != want) {
+        if (!got.equals(want)) {
             wrong++;
-            System.out.println(what + " answered " + got + ", due is " + want);
-        }
-    }
-
-    void same(String what, boolean got, boolean want) {
-        same(what, got ? 1 : 0, want ? 1 : 0);
-    }
-
-    /** Whether a call throws an exception of just this class; null for none at all. */
-    void fails(String what, Class<? extends RuntimeException> want, Call call) {
-        made++;
-        Class<?> got = null;
-        try {
-            call.run();
-        } catch (RuntimeException e) {
-            got = e.getClass();
-        }
-        if (got != want) {
-            wrong++;
-            System.out.println(what + " threw " + got + ", due is " + want);
-        }
-    }
-
-    /** All coordinates of all points, and that there are no others. */
-    void points(String what, Coordinates got, List<int[]> due, int dimension) {
-        for (int which = 0; which < due.size(); which++) {
-            for (int i = 0; i < dimension; i++) {
-                int there = which;
-                int place = i;
-                String call = what + "(" + which + ", " + i + ")";
-                fails(call, null, () -> same(call, got.at(there, place), due.get(there)[place]));
+            if (wrong <= MOST_LINES) {
+                System.out.println(sentence + ": " + what + " answered " + got + ", due is " + want);
             }
         }
-        for (int which : new int[] {Integer.MIN_VALUE, -1, due.size(), Integer.MAX_VALUE}) {
-            fails(what + "(" + which + ", 0)", INDEX, () -> got.at(which, 0));
+    }
+
+    void due(Object want, ConeDesk desk, String name, int... numbers) {
+        Call call = new Call(name, numbers);
+        same(call.toString(), call.on(desk), want.toString());
+    }
+
+    void throwsJust(Class<? extends RuntimeException> want, ConeDesk desk, String name, int... numbers) {
+        due(Call.thrown(want), desk, name, numbers);
+    }
+
+    /** Everything that can be asked of an object has the answer that this cone has. */
+    void allAsDue(String when, Cone cone, ConeDesk desk) {
+        allAsDue(when, cone, desk, cone.questions());
+    }
+
+    void allAsDue(String when, Cone cone, ConeDesk desk, List<Cone.Question> questions) {
+        for (Cone.Question question : questions) {
+            String got = question.call().on(desk);
+            if (got.equals(question.due())) {
+                made++;
+            } else {
+                same(when + ", " + question.call() + " of " + cone, got, question.due());
+            }
         }
-        for (int i : new int[] {Integer.MIN_VALUE, -1, dimension, Integer.MAX_VALUE}) {
-            fails(what + "(0, " + i + ")", INDEX, () -> got.at(0, i));
+    }
+
+    /**
+     * A call throws just this and changes nothing, whether the object was asked before, so that it
+     * may have kept some answers, or is asked only then.
+     */
+    void refused(Class<? extends RuntimeException> want, Cone cone, String name, int... numbers) {
+        unchangedBy(new Call(name, numbers), Call.thrown(want), cone);
+    }
+
+    void unchangedBy(Call call, String want, Cone cone) {
+        if (cone.rows.length + 2 * cone.questions().size() + 1 > Cone.MOST_CALLS) {
+            throw new AssertionError(cone + " takes too many questions");
         }
+        String what = call + " of " + cone;
+        ConeDesk cold = cone.desk();
+        same(what, call.on(cold), want);
+        allAsDue("after " + call, cone, cold);
+        ConeDesk warm = cone.desk();
+        allAsDue("before " + call, cone, warm);
+        same(what + ", asked before", call.on(warm), want);
+        allAsDue("after all was asked and " + call, cone, warm);
     }
 
     int wrong() {
@@ -88,5 +97,16 @@ final class Checks {
         if (wrong != 0 || made == 0) {
             System.exit(1);
         }
+    }
+
+    // A call that fails to end must fail its test too.
+    private static void endWhatDoesNotEnd() {
+        try {
+            Thread.sleep(LONGEST_TEST_MILLIS);
+        } catch (InterruptedException e) {
+            return;
+        }
+        System.out.println("the test does not end");
+        Runtime.getRuntime().halt(1);
     }
 }

@@ -142,7 +142,7 @@ final class Oracle {
 
     int parts(int[] point) {
         for (int coordinate : point) {
-            if (Math.abs(coordinate) > 100) {
+            if (coordinate < -100 || coordinate > 100) {
                 return -1;
             }
         }

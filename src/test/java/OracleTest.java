@@ -1,5 +1,6 @@
 import java.util.ArrayList;
 import java.util.Arrays;
+import java.util.Collections;
 import java.util.List;
 import java.util.Random;
 
@@ -14,21 +15,19 @@ public final class OracleTest {
 
     public static void main(String[] args) {
         OracleTest test = new OracleTest();
+        test.checks.about("what the document says");
         int factor = args.length > 0 ? Integer.parseInt(args[0]) : 1;
         for (int dimension = 2; dimension <= 4; dimension++) {
             for (int reach = 1; reach <= 5; reach++) {
-                for (int cone = 0; cone < 60 * factor; cone++) {
+                for (int cone = 0; cone < 80 * factor; cone++) {
                     int rows = dimension + test.random.nextInt(9 - dimension);
                     test.tryCone(dimension, reach, rows, test.random.nextInt(4) != 0);
                 }
             }
         }
         // Many small rows: cones that have many rays and yet are seldom LARGE.
-        for (int cone = 0; cone < 1000 * factor; cone++) {
+        for (int cone = 0; cone < 1200 * factor; cone++) {
             test.tryCone(4, 1 + cone % 2, 6 + cone % 3, true);
-        }
-        for (int run = 0; run < 40 * factor; run++) {
-            test.tryRun(2 + run % 3);
         }
         System.out.println(test.cones + " cones, " + test.based + " with a basis, " + test.flat
                 + " of a lesser size, " + test.boxed + " looked at in a box");
@@ -46,27 +45,9 @@ public final class OracleTest {
             }
             rows.add(row);
         }
-        compare(Checks.desk(dimension, rows.toArray(new int[0][])), dimension, rows);
-        compareInBox(dimension, rows, reach);
-    }
-
-    // One object that changes again and again: what it kept of an earlier cone must not show.
-    private void tryRun(int dimension) {
-        ConeDesk desk = new ConeDesk(dimension);
-        List<int[]> rows = new ArrayList<>();
-        for (int change = 0; change < 24; change++) {
-            if (rows.size() == 8 || rows.size() > dimension && random.nextInt(3) == 0) {
-                int which = random.nextInt(rows.size());
-                desk.drop(which);
-                rows.remove(which);
-            } else {
-                int[] row = randomRow(rows, dimension, 2);
-                int[] four = Checks.four(row);
-                checks.same("add", desk.add(four[0], four[1], four[2], four[3]), rows.size());
-                rows.add(row);
-            }
-            compare(desk, dimension, rows);
-        }
+        Cone cone = new Cone(dimension, rows.toArray(new int[0][]));
+        compare(cone);
+        compareInBox(cone.oracle(), reach);
     }
 
     private int[] randomRow(List<int[]> rows, int dimension, int reach) {
@@ -97,81 +78,21 @@ public final class OracleTest {
         return other;
     }
 
-    private void compare(ConeDesk desk, int dimension, List<int[]> rows) {
-        Oracle due = new Oracle(dimension, rows.toArray(new int[0][]));
+    // Asked in any order, so that each question is also the first one at times.
+    private void compare(Cone cone) {
+        Oracle due = cone.oracle();
         cones++;
-        int before = checks.wrong();
-        checks.same("look(0)", desk.look(0), dimension);
-        checks.same("look(1)", desk.look(1), rows.size());
-        checks.same("look(2)", desk.look(2), due.rank);
-        checks.same("look(3)", desk.look(3), dimension - due.rank);
-        checks.points("row", desk::row, rows, dimension);
-        for (int turn = 0; turn < 4; turn++) {
-            int[] point = randomPoint(dimension, 6);
-            int[] four = Checks.four(point);
-            checks.same("holds", desk.holds(four[0], four[1], four[2], four[3]), due.holds(point));
-        }
-        // Asked in another order at times, so that each question is also the first one.
-        if (random.nextBoolean()) {
-            compareBasis(desk, due);
-            compareFaces(desk, due);
-        } else {
-            compareFaces(desk, due);
-            compareBasis(desk, due);
-        }
-        if (checks.wrong() != before) {
-            System.out.println("  in the cone of " + Arrays.deepToString(due.rows));
-        }
-    }
-
-    private void compareFaces(ConeDesk desk, Oracle due) {
-        if (!due.pointed) {
-            checks.fails("rays()", Checks.STATE, desk::rays);
-            checks.fails("ray(-1, 0)", Checks.STATE, () -> desk.ray(-1, 0));
-            checks.fails("size()", Checks.STATE, desk::size);
-            checks.fails("bounds(-1)", Checks.STATE, () -> desk.bounds(-1));
-            checks.fails("faces(-1)", Checks.STATE, () -> desk.faces(-1));
-            return;
-        }
-        flat += due.size < due.dimension ? 1 : 0;
-        checks.same("size()", desk.size(), due.size);
-        checks.same("rays()", desk.rays(), due.rays.size());
-        checks.points("ray", desk::ray, due.rays, due.dimension);
-        for (int row = 0; row < due.rows.length; row++) {
-            checks.same("bounds(" + row + ")", desk.bounds(row), due.bounds(row));
-        }
-        checks.fails("bounds(-1)", Checks.INDEX, () -> desk.bounds(-1));
-        checks.fails("bounds(rows)", Checks.INDEX, () -> desk.bounds(due.rows.length));
-        for (int ofDimension = -1; ofDimension <= 5; ofDimension++) {
-            checks.same("faces(" + ofDimension + ")", desk.faces(ofDimension), due.faces(ofDimension));
-        }
-    }
-
-    private void compareBasis(ConeDesk desk, Oracle due) {
-        if (!due.pointed || due.large) {
-            if (due.pointed) {
-                checks.same("basis()", desk.basis(), -1);
-            } else {
-                checks.fails("basis()", Checks.STATE, desk::basis);
-            }
-            checks.fails("point(-1, 0)", Checks.STATE, () -> desk.point(-1, 0));
-            checks.fails("parts(0, 0, 0, 0)", Checks.STATE, () -> desk.parts(0, 0, 0, 0));
-            checks.fails("least(0, 0, 0, 0)", Checks.STATE, () -> desk.least(0, 0, 0, 0));
-            return;
-        }
-        based++;
-        checks.same("basis()", desk.basis(), due.basis.size());
-        checks.points("point", desk::point, due.basis, due.dimension);
+        based += due.pointed && !due.large ? 1 : 0;
+        flat += due.pointed && due.size < due.dimension ? 1 : 0;
+        List<Cone.Question> questions = new ArrayList<>(cone.questions());
         for (int turn = 0; turn < 6; turn++) {
-            int[] point = turn < 2 ? randomPoint(due.dimension, 102) : randomSum(due);
-            int[] four = Checks.four(point);
-            checks.same("parts" + Arrays.toString(point),
-                    desk.parts(four[0], four[1], four[2], four[3]), due.parts(point));
-            int[] with = randomPoint(due.dimension, 1000);
-            four = Checks.four(with);
-            checks.same("least" + Arrays.toString(with),
-                    desk.least(four[0], four[1], four[2], four[3]), due.least(with));
+            int[] point = turn < 2 ? randomPoint(cone.dimension, 102) : randomSum(due);
+            questions.add(cone.question(new Call("holds", Cone.four(point))));
+            questions.add(cone.question(new Call("parts", Cone.four(point))));
+            questions.add(cone.question(new Call("least", Cone.four(randomPoint(cone.dimension, 1000)))));
         }
+        Collections.shuffle(questions, random);
+        checks.allAsDue("among " + questions.size(), cone, cone.desk(), questions);
     }
 
     private int[] randomSum(Oracle due) {
@@ -188,13 +109,12 @@ public final class OracleTest {
     }
 
     // The oracle itself, against the definitions tried on every point of a box.
-    private void compareInBox(int dimension, List<int[]> rows, int reach) {
-        Oracle due = new Oracle(dimension, rows.toArray(new int[0][]));
+    private void compareInBox(Oracle due, int reach) {
         if (!due.pointed) {
             return;
         }
-        int rayReach = dimension == 2 ? reach : dimension == 3 ? 2 * reach * reach : 4 * reach * reach * reach;
-        if (Math.pow(2 * rayReach + 1, dimension) < 20000) {
+        int rayReach = due.dimension == 2 ? reach : due.dimension == 3 ? 2 * reach * reach : 4 * reach * reach * reach;
+        if (Math.pow(2 * rayReach + 1, due.dimension) < 20000) {
             checks.same("the oracle's rays", Oracle.same(due.rays, due.raysWithin(rayReach)), true);
         }
         if (!due.large && due.boxVolume() < 40000) {

@@ -1,137 +1,91 @@
-import java.util.List;
-
-/** Promises 6 to 10: rays, size, the rows that bound, and faces. */
+/** Promise 6. */
 public final class RaysTest {
     private final Checks checks = new Checks();
 
     public static void main(String[] args) {
         RaysTest test = new RaysTest();
+        test.fromNoneToTwelve();
+        test.eachPolygon();
         test.notPointed();
-        test.plane();
-        test.square();
-        test.longestRay();
-        test.halfLine();
-        test.nothingButZero();
-        test.flatCone();
-        test.mostRays();
-        test.boundingRows();
+        test.lastLineGoes();
+        test.lastLineComesBack();
         test.checks.end();
     }
 
-    private void raysAre(String what, ConeDesk desk, int[][] due) {
-        checks.same(what + ": rays()", desk.rays(), due.length);
-        checks.points(what + ": ray", desk::ray, List.of(due), desk.look(0));
+    private void raysAre(int due, Cone cone) {
+        checks.due(due, cone.desk(), "rays");
+        checks.allAsDue("with " + due + " rays", cone, cone.desk());
     }
 
-    private void facesAre(String what, ConeDesk desk, int... due) {
-        for (int dimension = 0; dimension < due.length; dimension++) {
-            checks.same(what + ": faces(" + dimension + ")", desk.faces(dimension), due[dimension]);
+    private void fromNoneToTwelve() {
+        checks.about("how many rays there are");
+        for (int k = 0; k < 3; k++) {
+            raysAre(0, Cones.ZERO[k]);
+            raysAre(1, Cones.HALF_LINE[k]);
+            raysAre(k + 2, Cones.ORTHANT[k]);
+            raysAre(k + 2, Cones.NEGATIVE_ORTHANT[k]);
         }
-        checks.same(what + ": size()", desk.size(), due.length - 1);
-        for (int dimension : new int[] {Integer.MIN_VALUE, -1, due.length, 99, Integer.MAX_VALUE}) {
-            checks.same(what + ": faces(" + dimension + ")", desk.faces(dimension), 0);
+        // Over a square, a square's pyramid, a triangle's prism, a prism with one corner cut off
+        // along two others, and so on up to the most that eight rows can have.
+        raysAre(4, new Cone(3, new int[][] {{1, 0, 1}, {-1, 0, 1}, {0, 1, 1}, {0, -1, 1}}));
+        raysAre(5, new Cone(4, new int[][] {{1, 0, 0, 0}, {-1, 0, -1, 1}, {0, 1, 0, 0}, {0, -1, -1, 1}, {0, 0, 1, 0}}));
+        raysAre(6, new Cone(4, new int[][] {{1, 0, 0, 0}, {0, 1, 0, 0}, {-1, -1, 0, 1}, {0, 0, 1, 0}, {0, 0, -1, 1}}));
+        raysAre(7, new Cone(4, new int[][] {
+            {-1, 0, -1, -1}, {1, 0, 0, 0}, {0, 0, -1, 1}, {0, -1, -1, 0}, {1, -1, 0, 0}, {0, 1, -1, -1}
+        }));
+        raysAre(8, Cones.CUBE);
+        for (int k = 0; k < 4; k++) {
+            raysAre(9 + k, Cones.MANY_RAYS[k]);
         }
+        // A tetrahedron with each corner cut off.
+        raysAre(12, new Cone(4, new int[][] {
+            {1, 0, 0, 0}, {0, 1, 0, 0}, {0, 0, 1, 0}, {0, 0, 0, 1},
+            {-1, 2, 2, 2}, {2, -1, 2, 2}, {2, 2, -1, 2}, {2, 2, 2, -1}
+        }));
     }
 
-    private void boundsAre(String what, ConeDesk desk, int... due) {
-        for (int row = 0; row < due.length; row++) {
-            checks.same(what + ": bounds(" + row + ")", desk.bounds(row), due[row] == 1);
+    // The octagon with fewer and fewer of its sides, until the four that go along no axis are gone.
+    private void eachPolygon() {
+        checks.about("how many rays there are, with fewer and fewer rows");
+        Cone cone = Cones.OCTAGON;
+        for (int sides = 8; sides >= 4; sides--) {
+            raysAre(sides, cone);
+            cone = sides > 4 ? cone.without(2 * sides - 9) : cone;
         }
-        checks.fails(what + ": bounds(-1)", Checks.INDEX, () -> desk.bounds(-1));
-        checks.fails(what + ": bounds(rows)", Checks.INDEX, () -> desk.bounds(due.length));
     }
 
     private void notPointed() {
-        ConeDesk[] desks = {
-            new ConeDesk(2), Checks.desk(2, new int[][] {{1, 2}, {-1, -2}, {2, 4}}),
-            Checks.desk(3, new int[][] {{1, 0, 0}, {0, 1, 0}}),
-            Checks.desk(4, new int[][] {{1, 0, 0, 0}, {0, 1, 0, 0}, {0, 0, 1, 0}})
-        };
-        for (ConeDesk desk : desks) {
-            checks.fails("not pointed: rays()", Checks.STATE, desk::rays);
-            checks.fails("not pointed: ray(0, 0)", Checks.STATE, () -> desk.ray(0, 0));
-            checks.fails("not pointed: ray(-1, -1)", Checks.STATE, () -> desk.ray(-1, -1));
-            checks.fails("not pointed: size()", Checks.STATE, desk::size);
-            checks.fails("not pointed: bounds(0)", Checks.STATE, () -> desk.bounds(0));
-            checks.fails("not pointed: bounds(99)", Checks.STATE, () -> desk.bounds(99));
-            checks.fails("not pointed: faces(0)", Checks.STATE, () -> desk.faces(0));
-            checks.fails("not pointed: faces(-1)", Checks.STATE, () -> desk.faces(-1));
+        checks.about("IllegalStateException: not pointed");
+        for (Cone cone : Cones.notPointed()) {
+            checks.refused(Checks.STATE, cone, "rays");
         }
     }
 
-    private void plane() {
-        ConeDesk desk = Checks.desk(2, new int[][] {{4, 2}, {-4, 2}});
-        raysAre("plane", desk, new int[][] {{-1, 2}, {1, 2}});
-        checks.fails("plane: ray(0, -1)", Checks.INDEX, () -> desk.ray(0, -1));
-        checks.fails("plane: ray(0, 2)", Checks.INDEX, () -> desk.ray(0, 2));
-        facesAre("plane", desk, 1, 2, 1);
-        boundsAre("plane", desk, 1, 1);
-        desk.drop(0);
-        checks.fails("plane, a row dropped: rays()", Checks.STATE, desk::rays);
-        desk.add(1, 0, 0, 0);
-        raysAre("plane, another row", desk, new int[][] {{0, 1}, {1, 2}});
+    private void lastLineGoes() {
+        checks.about("the cone is POINTED if LINES is 0");
+        for (Cone cone : Cones.ONE_LINE) {
+            ConeDesk desk = cone.desk();
+            checks.due(1, desk, "look", 3);
+            checks.throwsJust(Checks.STATE, desk, "rays");
+            Cone pointed = cone.with(java.util.Arrays.copyOf(new int[] {1, 1, 5, 0}, cone.dimension));
+            desk.add(1, 1, 5, 0);
+            checks.due(0, desk, "look", 3);
+            checks.allAsDue("pointed now", pointed, desk);
+        }
     }
 
-    private void square() {
-        ConeDesk desk = Checks.desk(3, new int[][] {{1, 0, 1}, {-1, 0, 1}, {0, 1, 1}, {0, -1, 1}});
-        raysAre("square", desk, new int[][] {{-1, -1, 1}, {-1, 1, 1}, {1, -1, 1}, {1, 1, 1}});
-        facesAre("square", desk, 1, 4, 4, 1);
-        boundsAre("square", desk, 1, 1, 1, 1);
-    }
-
-    // Determinants of three rows are up to 500 and need not have a common divisor.
-    private void longestRay() {
-        int[][] rows = {{4, -5, -5, -5}, {-5, 5, -5, -4}, {-5, 4, 5, -5}, {0, 0, 0, 1}};
-        raysAre("longest", Checks.desk(4, rows), new int[][] {
-            {-495, -455, -36, 95}, {-10, -9, 1, 0}, {-9, -10, -1, 0}, {-5, 5, -9, 0}
-        });
-    }
-
-    private void halfLine() {
-        ConeDesk desk = Checks.desk(2, new int[][] {{1, 1}, {-1, -1}, {0, -2}, {-1, -2}});
-        raysAre("half line", desk, new int[][] {{1, -1}});
-        facesAre("half line", desk, 1, 1);
-        boundsAre("half line", desk, 0, 0, 1, 0);
-    }
-
-    private void nothingButZero() {
-        ConeDesk desk = Checks.desk(2, new int[][] {{1, 0}, {-1, 1}, {-1, -1}});
-        raysAre("zero", desk, new int[][] {});
-        facesAre("zero", desk, 1);
-        boundsAre("zero", desk, 0, 0, 0);
-    }
-
-    // Two rows that are each other's negatives leave a cone of size 2 in three dimensions.
-    private void flatCone() {
-        ConeDesk desk = Checks.desk(3, new int[][] {{0, 0, 1}, {0, 0, -1}, {1, 2, 0}, {1, -2, 5}, {2, -4, 0}});
-        raysAre("flat", desk, new int[][] {{2, -1, 0}, {2, 1, 0}});
-        facesAre("flat", desk, 1, 2, 1);
-        boundsAre("flat", desk, 0, 0, 1, 1, 0);
-    }
-
-    // A solid with eight sides has at most twelve corners: a cut of each of four corners of a
-    // tetrahedron.
-    private void mostRays() {
-        int[][] rows = {
-            {1, 0, 0, 0}, {0, 1, 0, 0}, {0, 0, 1, 0}, {0, 0, 0, 1},
-            {-1, 2, 2, 2}, {2, -1, 2, 2}, {2, 2, -1, 2}, {2, 2, 2, -1}
-        };
-        ConeDesk desk = Checks.desk(4, rows);
-        checks.same("most: rays()", desk.rays(), 12);
-        facesAre("most", desk, 1, 12, 18, 8, 1);
-        boundsAre("most", desk, 1, 1, 1, 1, 1, 1, 1, 1);
-        checks.same("most: ray(0, 2)", desk.ray(0, 2), 1);
-        checks.same("most: ray(0, 3)", desk.ray(0, 3), 2);
-        checks.same("most: ray(11, 0)", desk.ray(11, 0), 2);
-        checks.same("most: ray(11, 1)", desk.ray(11, 1), 1);
-    }
-
-    private void boundingRows() {
-        int[][] rows = {{1, 1, 1}, {2, 0, 0}, {0, 1, 0}, {1, 0, 0}, {0, 0, 1}, {1, 1, 0}, {0, 0, 3}};
-        ConeDesk desk = Checks.desk(3, rows);
-        boundsAre("octant", desk, 0, 1, 1, 0, 1, 0, 0);
-        facesAre("octant", desk, 1, 3, 3, 1);
-        desk.drop(1);
-        boundsAre("octant, a row dropped", desk, 0, 1, 1, 1, 0, 0);
+    private void lastLineComesBack() {
+        checks.about("IllegalStateException: not pointed, after a row was dropped");
+        for (Cone cone : Cones.ORTHANT) {
+            for (int row = 0; row < cone.dimension; row++) {
+                ConeDesk desk = cone.desk();
+                checks.due(cone.dimension, desk, "rays");
+                desk.drop(row);
+                checks.throwsJust(Checks.STATE, desk, "rays");
+                int[] four = Cone.four(cone.rows[row]);
+                desk.add(four[0], four[1], four[2], four[3]);
+                checks.due(cone.dimension, desk, "rays");
+            }
+        }
     }
 }

@@ -9,10 +9,20 @@ import java.util.TreeSet;
 /** The public face and what LANGUAGE.md says of it, and the room that calls take. */
 public final class ShapeTest {
     private static final String[] FACE = {
-        "int add(int,int,int,int)", "void drop(int)", "int look(int)", "int row(int,int)", "int rays()",
-        "int ray(int,int)", "int size()", "boolean bounds(int)", "int faces(int)", "int basis()",
-        "int point(int,int)", "boolean holds(int,int,int,int)", "int parts(int,int,int,int)",
-        "int least(int,int,int,int)"
+        "int add(int,int,int,int) IllegalArgumentException IllegalStateException",
+        "void drop(int) IndexOutOfBoundsException",
+        "int look(int)",
+        "int row(int,int) IndexOutOfBoundsException",
+        "int rays() IllegalStateException",
+        "int ray(int,int) IllegalStateException IndexOutOfBoundsException",
+        "int size() IllegalStateException",
+        "boolean bounds(int) IllegalStateException IndexOutOfBoundsException",
+        "int faces(int) IllegalStateException",
+        "int basis() IllegalStateException",
+        "int point(int,int) IllegalStateException IndexOutOfBoundsException",
+        "boolean holds(int,int,int,int)",
+        "int parts(int,int,int,int) IllegalStateException",
+        "int least(int,int,int,int) IllegalArgumentException IllegalStateException"
     };
 
     private final Checks checks = new Checks();
@@ -40,8 +50,7 @@ public final class ShapeTest {
                 checks.same(method + " is public", Modifier.isPublic(method.getModifiers()), true);
             }
         }
-        System.out.println(got.equals(due) ? "the face is as due" : "the face is " + got);
-        checks.same("the face's methods are as due", got.equals(due), true);
+        checks.same("the face", got, due);
         privateNames.retainAll(names);
         checks.same("private methods with a public name", privateNames.size(), 0);
         for (Constructor<?> constructor : ConeDesk.class.getDeclaredConstructors()) {
@@ -59,7 +68,11 @@ public final class ShapeTest {
         for (Class<?> type : method.getParameterTypes()) {
             text.append(text.charAt(text.length() - 1) == '(' ? "" : ",").append(type);
         }
-        return text + ")";
+        text.append(")");
+        for (Class<?> type : method.getExceptionTypes()) {
+            text.append(" ").append(type.getSimpleName());
+        }
+        return text.toString();
     }
 
     private void nestedClasses() {
@@ -73,8 +86,8 @@ public final class ShapeTest {
         }
     }
 
-    // A run has room for some 600,000 objects and 7.3 million fields and elements; here a whole
-    // object with 512 of the dearest calls takes no more than some thousands.
+    // A run has room for some 600,000 objects, and an object takes 16 bytes or more; as many bytes
+    // hold less than 7.3 million elements of four bytes each.
     private void room() {
         com.sun.management.ThreadMXBean threads =
                 (com.sun.management.ThreadMXBean) ManagementFactory.getThreadMXBean();
@@ -83,7 +96,7 @@ public final class ShapeTest {
         dearRun();
         long taken = threads.getCurrentThreadAllocatedBytes() - before;
         System.out.println("a run of 512 calls takes " + taken + " bytes");
-        checks.same("room of a run is within 20,000 bytes", taken < 20000, true);
+        checks.same("the room of a run is enough", taken < 16L * 600_000, true);
     }
 
     private static void dearRun() {
