@@ -35,7 +35,9 @@ public final class BasisTest {
         // The many points of a long edge, and more of them behind a wide side.
         basisIs(11, new Cone(2, new int[][] {{-1, 5}, {1, 5}}));
         basisIs(23, new Cone(3, new int[][] {{-3, 3, -3}, {-4, -2, 2}, {2, 0, 3}, {-3, 0, -4}}));
-        basisIs(30, new Cone(4, new int[][] {{-5, 0, 3, -1}, {4, 4, -5, -2}, {5, -5, 3, 2}, {-2, -1, -2, 4}, {2, 3, -5, 0}}));
+        basisIs(30, new Cone(4, new int[][] {
+            {-5, 0, 3, -1}, {4, 4, -5, -2}, {5, -5, 3, 2}, {-2, -1, -2, 4}, {2, 3, -5, 0}
+        }));
         basisIs(6, Cones.LONG_POINTS);
     }
 
@@ -97,12 +99,13 @@ public final class BasisTest {
     private void indexOfEveryChoice() {
         checks.about("an INDEX above 12, of any SIZE rays that are linearly independent");
         basisIs(-1, Cones.GREAT_CUBE);
-        // The pentagon's and the square's neighbours alone have no INDEX above 12.
-        basisIs(-1, Cones.INDEX_THIRTEEN[6]);
+        // Of 70 choices of four of its eight rays, two have the INDEX 13, and none a greater one.
+        checks.due(8, Cones.INDEX_THIRTEEN[8].desk(), "rays");
+        basisIs(-1, Cones.INDEX_THIRTEEN[8]);
     }
 
     private void indexIsTheCommonDivisor() {
-        checks.about("INDEX: the greatest common divisor of the determinants of all choices of SIZE of the coordinates");
+        checks.about("INDEX: the greatest common divisor of the determinants of all choices of coordinates");
         // SIZE 1: the determinants are the coordinates -495, -455, -36 and 95.
         basisIs(1, Cones.HALF_LINE[2]);
         // SIZE 2: (1, -2, 0, 4) and (7, 10, -12, 4) have 24, -12, -24, 24, -48 and 48.
@@ -110,7 +113,9 @@ public final class BasisTest {
         // SIZE 2: (-1, -1, 0) and (5, 41, 45) have -36, -45 and -45.
         basisIs(4, new Cone(3, new int[][] {{-4, -5, 5}, {5, -5, 4}, {-1, 1, 0}, {-5, 5, -4}}));
         // SIZE 3: coordinates up to 164.
-        basisIs(3, new Cone(4, new int[][] {{4, 5, 1, 3}, {-4, -1, 5, 2}, {0, -5, 2, 4}, {-3, -2, 1, -1}, {4, 1, -5, -2}}));
+        basisIs(3, new Cone(4, new int[][] {
+            {4, 5, 1, 3}, {-4, -1, 5, 2}, {0, -5, 2, 4}, {-3, -2, 1, -1}, {4, 1, -5, -2}
+        }));
     }
 
     private void becomesLargeAndSmallAgain() {

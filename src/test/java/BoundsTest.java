@@ -51,7 +51,9 @@ public final class BoundsTest {
 
     private void lesserNumberTightAtTheSame() {
         checks.about("no row with a lesser number is tight at just the same rays");
-        Cone cone = new Cone(3, new int[][] {{1, 1, 1}, {2, 0, 0}, {0, 1, 0}, {1, 0, 0}, {0, 0, 1}, {1, 1, 0}, {0, 0, 3}});
+        Cone cone = new Cone(3, new int[][] {
+            {1, 1, 1}, {2, 0, 0}, {0, 1, 0}, {1, 0, 0}, {0, 0, 1}, {1, 1, 0}, {0, 0, 3}
+        });
         boundsAre(cone, 0, 1, 1, 0, 1, 0, 0);
         ConeDesk desk = cone.desk();
         desk.drop(1);
@@ -62,7 +64,9 @@ public final class BoundsTest {
         desk.add(2, 0, 0, 0);
         checks.due(true, desk, "bounds", 2);
         checks.due(false, desk, "bounds", 6);
-        boundsAre(new Cone(2, new int[][] {{1, 0}, {2, 0}, {3, 0}, {0, 1}, {0, 2}, {1, 0}, {0, 1}, {5, 0}}), 1, 0, 0, 1, 0, 0, 0, 0);
+        boundsAre(new Cone(2, new int[][] {
+            {1, 0}, {2, 0}, {3, 0}, {0, 1}, {0, 2}, {1, 0}, {0, 1}, {5, 0}
+        }), 1, 0, 0, 1, 0, 0, 0, 0);
     }
 
     // SIZE is 1: the face of dimension 0, of no ray, is bounded by the first row that is tight at none.

@@ -1,3 +1,5 @@
+import java.util.Arrays;
+
 /** Promise 3. */
 public final class DropTest {
     private final Checks checks = new Checks();
@@ -15,7 +17,7 @@ public final class DropTest {
     private static Cone numbered(int dimension, int count) {
         Cone cone = new Cone(dimension);
         for (int row = 0; row < count; row++) {
-            cone = cone.with(java.util.Arrays.copyOf(new int[] {row - 3, 1, -row % 6, row % 5}, dimension));
+            cone = cone.with(Arrays.copyOf(new int[] {row - 3, 1, -row % 6, row % 5}, dimension));
         }
         return cone;
     }

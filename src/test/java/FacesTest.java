@@ -36,8 +36,12 @@ public final class FacesTest {
         facesAre(Cones.FLAT[0], 1, 2, 1);
         facesAre(Cones.FLAT[2], 1, 4, 4, 1);
         // A square's pyramid and a triangle's prism.
-        facesAre(new Cone(4, new int[][] {{1, 0, 0, 0}, {-1, 0, -1, 1}, {0, 1, 0, 0}, {0, -1, -1, 1}, {0, 0, 1, 0}}), 1, 5, 8, 5, 1);
-        facesAre(new Cone(4, new int[][] {{1, 0, 0, 0}, {0, 1, 0, 0}, {-1, -1, 0, 1}, {0, 0, 1, 0}, {0, 0, -1, 1}}), 1, 6, 9, 5, 1);
+        facesAre(new Cone(4, new int[][] {
+            {1, 0, 0, 0}, {-1, 0, -1, 1}, {0, 1, 0, 0}, {0, -1, -1, 1}, {0, 0, 1, 0}
+        }), 1, 5, 8, 5, 1);
+        facesAre(new Cone(4, new int[][] {
+            {1, 0, 0, 0}, {0, 1, 0, 0}, {-1, -1, 0, 1}, {0, 0, 1, 0}, {0, 0, -1, 1}
+        }), 1, 6, 9, 5, 1);
     }
 
     private void rowsThatAddNoFace() {

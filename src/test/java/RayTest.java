@@ -33,12 +33,17 @@ public final class RayTest {
                 new int[][] {{-1, -1, 1}, {-1, 1, 1}, {1, -1, 1}, {1, 1, 1}});
         raysAre(Cones.NEGATIVE_ORTHANT[1], new int[][] {{-1, 0, 0}, {0, -1, 0}, {0, 0, -1}});
         raysAre(Cones.CUBE, new int[][] {
-            {0, 0, 0, 1}, {0, 0, 1, 1}, {0, 1, 0, 1}, {0, 1, 1, 1}, {1, 0, 0, 1}, {1, 0, 1, 1}, {1, 1, 0, 1}, {1, 1, 1, 1}
+            {0, 0, 0, 1}, {0, 0, 1, 1}, {0, 1, 0, 1}, {0, 1, 1, 1},
+            {1, 0, 0, 1}, {1, 0, 1, 1}, {1, 1, 0, 1}, {1, 1, 1, 1}
         });
         // The last coordinate alone tells these apart, with either sign before.
-        raysAre(new Cone(4, new int[][] {{1, 0, 0, 5}, {1, 0, 0, -5}, {1, 1, 0, 0}, {-1, -1, 0, 0}, {1, 0, 1, 0}, {-1, 0, -1, 0}}),
+        raysAre(new Cone(4, new int[][] {
+            {1, 0, 0, 5}, {1, 0, 0, -5}, {1, 1, 0, 0}, {-1, -1, 0, 0}, {1, 0, 1, 0}, {-1, 0, -1, 0}
+        }),
                 new int[][] {{5, -5, -5, -1}, {5, -5, -5, 1}});
-        raysAre(new Cone(4, new int[][] {{-1, 0, 0, 5}, {-1, 0, 0, -5}, {1, 1, 0, 0}, {-1, -1, 0, 0}, {1, 0, 1, 0}, {-1, 0, -1, 0}}),
+        raysAre(new Cone(4, new int[][] {
+            {-1, 0, 0, 5}, {-1, 0, 0, -5}, {1, 1, 0, 0}, {-1, -1, 0, 0}, {1, 0, 1, 0}, {-1, 0, -1, 0}
+        }),
                 new int[][] {{-5, 5, 5, -1}, {-5, 5, 5, 1}});
     }
 
@@ -48,18 +53,24 @@ public final class RayTest {
             raysAre(new Cone(2, new int[][] {{factor, 0}, {0, -factor}}), new int[][] {{0, -1}, {1, 0}});
             raysAre(new Cone(3, new int[][] {{factor, factor, 0}, {factor, -factor, 0}, {0, 0, factor}}),
                     new int[][] {{0, 0, 1}, {1, -1, 0}, {1, 1, 0}});
-            raysAre(new Cone(4, new int[][] {{factor, 0, 0, 0}, {0, factor, 0, 0}, {0, 0, -factor, 0}, {0, 0, 0, factor}}),
+            raysAre(new Cone(4, new int[][] {
+                {factor, 0, 0, 0}, {0, factor, 0, 0}, {0, 0, -factor, 0}, {0, 0, 0, factor}
+            }),
                     new int[][] {{0, 0, -1, 0}, {0, 0, 0, 1}, {0, 1, 0, 0}, {1, 0, 0, 0}});
         }
         // 2 and 4 have a common divisor, but not with 5.
-        raysAre(new Cone(3, new int[][] {{5, 0, -2}, {-5, 0, 2}, {0, 5, -4}, {0, -5, 4}, {1, 0, 0}}), new int[] {2, 4, 5});
+        raysAre(new Cone(3, new int[][] {
+            {5, 0, -2}, {-5, 0, 2}, {0, 5, -4}, {0, -5, 4}, {1, 0, 0}
+        }), new int[] {2, 4, 5});
     }
 
     // Determinants of three rows are up to 500 and need not have a common divisor.
     private void longestRays() {
         checks.about("rays, as long as rows can make them");
         raysAre(new Cone(2, new int[][] {{5, 4}, {4, 5}}), new int[][] {{-4, 5}, {5, -4}});
-        raysAre(new Cone(3, new int[][] {{5, 5, -4}, {-5, -5, 4}, {5, -4, 4}, {-5, 4, -4}, {1, 0, 0}}), new int[] {4, -40, -45});
+        raysAre(new Cone(3, new int[][] {
+            {5, 5, -4}, {-5, -5, 4}, {5, -4, 4}, {-5, 4, -4}, {1, 0, 0}
+        }), new int[] {4, -40, -45});
         raysAre(Cones.HALF_LINE[2], new int[] {-495, -455, -36, 95});
         raysAre(new Cone(4, new int[][] {{4, -5, -5, -5}, {-5, 5, -5, -4}, {-5, 4, 5, -5}, {0, 0, 0, 1}}),
                 new int[][] {{-495, -455, -36, 95}, {-10, -9, 1, 0}, {-9, -10, -1, 0}, {-5, 5, -9, 0}});

@@ -1,3 +1,5 @@
+import java.util.Arrays;
+
 /** Promise 6. */
 public final class RaysTest {
     private final Checks checks = new Checks();
@@ -25,8 +27,8 @@ public final class RaysTest {
             raysAre(k + 2, Cones.ORTHANT[k]);
             raysAre(k + 2, Cones.NEGATIVE_ORTHANT[k]);
         }
-        // Over a square, a square's pyramid, a triangle's prism, a prism with one corner cut off
-        // along two others, and so on up to the most that eight rows can have.
+        // Over a square, a square's pyramid, a triangle's prism, a solid with seven corners, and so
+        // on up to the most that eight rows can have.
         raysAre(4, new Cone(3, new int[][] {{1, 0, 1}, {-1, 0, 1}, {0, 1, 1}, {0, -1, 1}}));
         raysAre(5, new Cone(4, new int[][] {{1, 0, 0, 0}, {-1, 0, -1, 1}, {0, 1, 0, 0}, {0, -1, -1, 1}, {0, 0, 1, 0}}));
         raysAre(6, new Cone(4, new int[][] {{1, 0, 0, 0}, {0, 1, 0, 0}, {-1, -1, 0, 1}, {0, 0, 1, 0}, {0, 0, -1, 1}}));
@@ -67,7 +69,7 @@ public final class RaysTest {
             ConeDesk desk = cone.desk();
             checks.due(1, desk, "look", 3);
             checks.throwsJust(Checks.STATE, desk, "rays");
-            Cone pointed = cone.with(java.util.Arrays.copyOf(new int[] {1, 1, 5, 0}, cone.dimension));
+            Cone pointed = cone.with(Arrays.copyOf(new int[] {1, 1, 5, 0}, cone.dimension));
             desk.add(1, 1, 5, 0);
             checks.due(0, desk, "look", 3);
             checks.allAsDue("pointed now", pointed, desk);

@@ -7,7 +7,8 @@ public final class RunTest {
         0, 1, 2, 3, 4, 5, 6, 7, 8, 9, 12, 13, 100, 101, 1000, 1001, 65536, 1 << 30, Checks.HIGH - 1, Checks.HIGH
     };
     private static final String[] NAMES = {
-        "add", "drop", "look", "row", "rays", "ray", "size", "bounds", "faces", "basis", "point", "holds", "parts", "least"
+        "add", "drop", "look", "row", "rays", "ray", "size",
+        "bounds", "faces", "basis", "point", "holds", "parts", "least"
     };
     private static final int[] ARGUMENTS = {4, 1, 1, 2, 0, 2, 0, 1, 1, 0, 2, 4, 4, 4};
     private static final String DUE_CLASSES =
